@@ -1,0 +1,89 @@
+import java.lang.reflect.Constructor;
+import java.lang.reflect.Field;
+import java.lang.reflect.Method;
+import java.lang.reflect.Modifier;
+import java.nio.file.Files;
+import java.nio.file.Path;
+import java.util.Arrays;
+import java.util.Set;
+import java.util.TreeSet;
+import java.util.regex.Pattern;
+
+/** The document's face and those rules of LANGUAGE.md that can be seen from the class and its text. */
+public final class LanguageTest {
+    private static final Path SOURCE = Path.of("src/main/java/RootWeights.java");
+    private static final Set<String> FACE = new TreeSet<>(Set.of(
+            "type(int)", "first(int,int)", "second(int,int)", "number(int,int)", "size()", "most()",
+            "orbit(int,int)", "high(int,int)", "product(int,int)", "kinds()", "total()", "even(int,int)",
+            "odd(int,int)", "along(int,int)"));
+    private static final String[] FORBIDDEN_WORDS = {
+        "float", "double", "String", "Math", "Integer", "Long", "System", "Arrays", "Object", "import", "package",
+        "throw", "throws", "try", "catch", "finally", "synchronized", "assert", "instanceof", "null", "enum",
+        "interface", "record", "protected", "var", "getClass", "hashCode", "equals", "toString", "clone",
+    };
+
+    public static void main(String[] args) throws Exception {
+        Check check = new Check("language");
+        face(check);
+        members(check);
+        text(check, withoutComments(Files.readString(SOURCE)));
+        check.end();
+    }
+
+    private static void face(Check check) {
+        Set<String> found = new TreeSet<>();
+        for (Method method : RootWeights.class.getDeclaredMethods()) {
+            if (Modifier.isPublic(method.getModifiers())) {
+                String types = Arrays.toString(method.getParameterTypes()).replaceAll("[\\[\\] ]", "");
+                found.add(method.getName() + "(" + types + ")");
+                check.holds(method + " answers an int", method.getReturnType() == int.class);
+                check.holds(method + " is not static", !Modifier.isStatic(method.getModifiers()));
+            }
+        }
+        check.holds("the public methods are the document's: " + found, found.equals(FACE));
+        Constructor<?>[] constructors = RootWeights.class.getDeclaredConstructors();
+        check.due("constructors", constructors.length, 1);
+        check.holds("the constructor is public", Modifier.isPublic(constructors[0].getModifiers()));
+        int modifiers = RootWeights.class.getModifiers();
+        check.holds("the class is public and final", Modifier.isPublic(modifiers) && Modifier.isFinal(modifiers));
+        check.due("nested classes", RootWeights.class.getDeclaredClasses().length, 0);
+    }
+
+    private static void members(Check check) {
+        int fields = 0;
+        for (Field field : RootWeights.class.getDeclaredFields()) {
+            boolean isStatic = Modifier.isStatic(field.getModifiers());
+            fields += isStatic ? 0 : 1;
+            check.holds(field + " is private", Modifier.isPrivate(field.getModifiers()));
+            check.holds(field + ", if static, is a constant of int or long", !isStatic
+                    || Modifier.isFinal(field.getModifiers())
+                    && (field.getType() == int.class || field.getType() == long.class));
+        }
+        check.holds("at most forty fields", fields <= 40);
+        Set<String> publicNames = new TreeSet<>();
+        for (String signature : FACE) {
+            publicNames.add(signature.replaceAll("\\(.*", ""));
+        }
+        for (Method method : RootWeights.class.getDeclaredMethods()) {
+            boolean isPublic = Modifier.isPublic(method.getModifiers());
+            check.holds(method + " is public or private", isPublic || Modifier.isPrivate(method.getModifiers()));
+            check.holds(method + " has a name of its own", isPublic || !publicNames.contains(method.getName()));
+            check.holds(method + " takes at most seven parameters", method.getParameterCount() <= 7);
+            check.holds(method + " answers no array", !method.getReturnType().isArray());
+        }
+    }
+
+    private static void text(Check check, String text) {
+        for (String word : FORBIDDEN_WORDS) {
+            check.holds("no word " + word, !Pattern.compile("\\b" + word + "\\b").matcher(text).find());
+        }
+        check.holds("no lambda, method reference or string", !Pattern.compile("->|::|\"").matcher(text).find());
+        check.holds("no array of arrays", !Pattern.compile("\\]\\s*\\[").matcher(text).find());
+        String withoutArrayFields = text.replaceAll("private final int\\[\\] \\w+ = new int\\[[A-Z_]+\\];", "");
+        check.holds("arrays are made in fields alone", !Pattern.compile("\\bnew\\b").matcher(withoutArrayFields).find());
+    }
+
+    private static String withoutComments(String text) {
+        return text.replaceAll("(?s)/\\*.*?\\*/", " ").replaceAll("//[^\\n]*", " ");
+    }
+}
