@@ -33,9 +33,10 @@ public final class RootWeights {
     private int firstB;
     private final int[] firstNumbers = new int[CELLS];
 
+    // A product asks for no more of second than its high weight, so its numbers are laid out just to be counted.
     private int secondA;
     private int secondB;
-    private final int[] secondNumbers = new int[CELLS];
+    private final int[] countedNumbers = new int[CELLS];
 
     public RootWeights(int type) {
         int clamped = type < 0 ? 0 : type;
@@ -66,7 +67,7 @@ public final class RootWeights {
         }
         secondA = a;
         secondB = b;
-        return build(secondNumbers, a, b);
+        return build(countedNumbers, a, b);
     }
 
     public int number(int c, int d) {
@@ -207,7 +208,6 @@ public final class RootWeights {
         motions = type == TOP_TYPE ? MOST_MOTIONS : 4 + 2 * type;
         layMotions();
         build(firstNumbers, firstA, firstB);
-        build(secondNumbers, secondA, secondB);
     }
 
     /**

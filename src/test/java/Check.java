@@ -1,7 +1,16 @@
 import java.util.function.IntBinaryOperator;
+import java.util.function.Supplier;
 
-/** Counts the answers of one test, prints the wrong ones, and ends with exit code 1 if there was one. */
+/**
+ * Counts the answers of one test, prints the wrong ones, and ends with exit code 1 if there was one. Nothing is
+ * promised of an object after its 512th call, so what asks more than that takes new objects as it goes.
+ */
 final class Check {
+    /** A call that is asked of an object with two numbers. */
+    interface Call {
+        int of(RootWeights x, int c, int d);
+    }
+
     static final int[][] OUTSIDE = {
         {41, 0}, {-41, 0}, {0, 41}, {0, -41}, {41, 41}, {-41, -41}, {41, -41}, {-40, 41}, {41, -40},
         {Integer.MAX_VALUE, 0}, {0, Integer.MAX_VALUE}, {Integer.MIN_VALUE, 0}, {0, Integer.MIN_VALUE},
@@ -12,6 +21,7 @@ final class Check {
         {Integer.MAX_VALUE, 0}, {0, Integer.MAX_VALUE}, {Integer.MIN_VALUE, 1}, {1, Integer.MIN_VALUE},
     };
     private static final int PRINTED_AT_MOST = 20;
+    private static final int ROWS_OF_AN_OBJECT = 6;
 
     private final String what;
     private int made = 0;
@@ -40,15 +50,41 @@ final class Check {
     }
 
     /** Every part from -40 to 40 against what is due, and every weight beyond against -1. */
-    void everyWeight(String call, IntBinaryOperator got, IntBinaryOperator want) {
+    void everyWeight(String name, Supplier<RootWeights> fresh, Call call, IntBinaryOperator want) {
+        int[][] got = answers(fresh, call);
         for (int c = -40; c <= 40; c++) {
             for (int d = -40; d <= 40; d++) {
-                due(call + "(" + c + ", " + d + ")", got.applyAsInt(c, d), want.applyAsInt(c, d));
+                due(name + "(" + c + ", " + d + ")", got[c + 40][d + 40], want.applyAsInt(c, d));
             }
         }
+        RootWeights x = fresh.get();
         for (int[] weight : OUTSIDE) {
-            due(call + "(" + weight[0] + ", " + weight[1] + ")", got.applyAsInt(weight[0], weight[1]), -1);
+            due(name + "(" + weight[0] + ", " + weight[1] + ")", call.of(x, weight[0], weight[1]), -1);
         }
+    }
+
+    /** Every one of these calls is refused with -1 and changes nothing. */
+    void refused(String name, Supplier<RootWeights> fresh, Call call, int[][] wrong) {
+        String before = state(fresh.get());
+        for (int[] row : wrong) {
+            RootWeights x = fresh.get();
+            due(name + "(" + row[0] + ", " + row[1] + ")", call.of(x, row[0], row[1]), -1);
+            same("a refused " + name + " changes nothing", state(x), before);
+        }
+    }
+
+    static int[][] answers(Supplier<RootWeights> fresh, Call call) {
+        int[][] got = new int[81][81];
+        RootWeights x = fresh.get();
+        for (int row = 0; row <= 80; row++) {
+            if (row % ROWS_OF_AN_OBJECT == 0) {
+                x = fresh.get();
+            }
+            for (int d = -40; d <= 40; d++) {
+                got[row][d + 40] = call.of(x, row - 40, d);
+            }
+        }
+        return got;
     }
 
     void end() {
@@ -58,13 +94,16 @@ final class Check {
         }
     }
 
-    /** All that the face tells of an object's state: two objects that agree here are in the same state. */
+    /**
+     * Enough to tell an object's state: the orbit tells the type, the highest numbers tell first, and the highest
+     * tables in the product tell second.
+     */
     static String state(RootWeights x) {
         StringBuilder text = new StringBuilder();
         text.append(x.orbit(1, 1)).append(' ').append(x.size()).append(' ').append(x.most());
         text.append(' ').append(x.kinds()).append(' ').append(x.total());
-        for (int c = -10; c <= 10; c++) {
-            for (int d = -16; d <= 16; d++) {
+        for (int c = 0; c <= 6; c++) {
+            for (int d = 0; d <= 6; d++) {
                 text.append(' ').append(x.number(c, d)).append(' ').append(x.product(c, d));
             }
         }
@@ -75,6 +114,10 @@ final class Check {
         RootWeights x = new RootWeights(type);
         x.first(a, b);
         return x;
+    }
+
+    static Supplier<RootWeights> maker(int type, int a, int b) {
+        return () -> made(type, a, b);
     }
 
     static RootWeights made(int type, int[] first, int[] second) {

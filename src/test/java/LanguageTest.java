@@ -80,7 +80,8 @@ public final class LanguageTest {
         check.holds("no lambda, method reference or string", !Pattern.compile("->|::|\"").matcher(text).find());
         check.holds("no array of arrays", !Pattern.compile("\\]\\s*\\[").matcher(text).find());
         String withoutArrayFields = text.replaceAll("private final int\\[\\] \\w+ = new int\\[[A-Z_]+\\];", "");
-        check.holds("arrays are made in fields alone", !Pattern.compile("\\bnew\\b").matcher(withoutArrayFields).find());
+        check.holds("arrays are made in fields alone",
+                !Pattern.compile("\\bnew\\b").matcher(withoutArrayFields).find());
     }
 
     private static String withoutComments(String text) {

@@ -1,6 +1,8 @@
 /** Promise 2: another type, with first and second of the same high weights; else -1 and nothing changes. */
 public final class Promise02TypeTest {
-    private static final int[] NO_TYPE = {-1, 4, 5, -2, 256, -256, Integer.MIN_VALUE, Integer.MAX_VALUE};
+    private static final int[][] NO_TYPE = {
+        {-1, 0}, {4, 0}, {5, 0}, {-2, 0}, {256, 0}, {-256, 0}, {Integer.MIN_VALUE, 0}, {Integer.MAX_VALUE, 0},
+    };
     private static final int[][] TOPS = {{0, 0}, {1, 0}, {0, 1}, {2, 1}, {1, 3}, {3, 3}};
 
     public static void main(String[] args) {
@@ -13,7 +15,9 @@ public final class Promise02TypeTest {
                     }
                 }
             }
-            refuse(check, from);
+            int type = from;
+            check.refused("type", () -> Check.made(type, new int[] {2, 1}, new int[] {1, 1}),
+                    (x, wrong, unused) -> x.type(wrong), NO_TYPE);
         }
         sizes(check);
         check.end();
@@ -27,15 +31,6 @@ public final class Promise02TypeTest {
         check.due("type(" + from + ") back from " + to, x.type(from), to);
         want = Check.state(Check.made(from, first, second));
         check.same("type " + from + " again", Check.state(x), want);
-    }
-
-    private static void refuse(Check check, int type) {
-        RootWeights x = Check.made(type, new int[] {2, 1}, new int[] {1, 1});
-        String before = Check.state(x);
-        for (int wrong : NO_TYPE) {
-            check.due("type(" + wrong + ")", x.type(wrong), -1);
-            check.same("type(" + wrong + ") changes nothing", Check.state(x), before);
-        }
     }
 
     private static void sizes(Check check) {

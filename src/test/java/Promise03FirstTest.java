@@ -19,19 +19,12 @@ public final class Promise03FirstTest {
             }
             x.first(0, 0);
             check.due("nothing is left of an earlier table", x.size(), 1);
-            x.first(2, 1);
-            refuse(check, x);
+            int made = type;
+            check.refused("first", () -> Check.made(made, new int[] {2, 1}, new int[] {1, 2}),
+                    RootWeights::first, Check.NO_TABLE);
         }
         known(check);
         check.end();
-    }
-
-    private static void refuse(Check check, RootWeights x) {
-        String before = Check.state(x);
-        for (int[] wrong : Check.NO_TABLE) {
-            check.due("first(" + wrong[0] + ", " + wrong[1] + ")", x.first(wrong[0], wrong[1]), -1);
-            check.same("a refused first changes nothing", Check.state(x), before);
-        }
     }
 
     private static void known(Check check) {

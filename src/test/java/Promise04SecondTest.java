@@ -17,19 +17,12 @@ public final class Promise04SecondTest {
                     check.due(name + "second again", x.second(a, b), model.second(a, b));
                 }
             }
-            x.second(1, 2);
-            refuse(check, x);
+            int made = type;
+            check.refused("second", () -> Check.made(made, new int[] {2, 1}, new int[] {1, 2}),
+                    RootWeights::second, Check.NO_TABLE);
         }
         known(check);
         check.end();
-    }
-
-    private static void refuse(Check check, RootWeights x) {
-        String before = Check.state(x);
-        for (int[] wrong : Check.NO_TABLE) {
-            check.due("second(" + wrong[0] + ", " + wrong[1] + ")", x.second(wrong[0], wrong[1]), -1);
-            check.same("a refused second changes nothing", Check.state(x), before);
-        }
     }
 
     private static void known(Check check) {

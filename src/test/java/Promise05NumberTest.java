@@ -1,4 +1,5 @@
 import java.util.List;
+import java.util.function.Supplier;
 
 /** Promise 5: the number of (c, d) in first, against the document's own condition and against the model. */
 public final class Promise05NumberTest {
@@ -10,11 +11,11 @@ public final class Promise05NumberTest {
         for (int type = 0; type <= 3; type++) {
             for (int a = 0; a <= 3; a++) {
                 for (int b = 0; b <= 3; b++) {
-                    RootWeights x = Check.made(type, a, b);
-                    condition(check, x, type, a, b);
+                    Supplier<RootWeights> fresh = Check.maker(type, a, b);
+                    condition(check, Check.answers(fresh, RootWeights::number), type, a, b);
                     Model model = new Model(type);
                     model.first(a, b);
-                    check.everyWeight(Check.name(type, a, b) + "number", x::number, model::number);
+                    check.everyWeight(Check.name(type, a, b) + "number", fresh, RootWeights::number, model::number);
                 }
             }
         }
@@ -22,7 +23,7 @@ public final class Promise05NumberTest {
         check.end();
     }
 
-    private static void condition(Check check, RootWeights x, int type, int a, int b) {
+    private static void condition(Check check, int[][] numbers, int type, int a, int b) {
         List<Model.Motion> motions = Model.motions(type);
         Model.Weight top = new Model.Weight(a + 1, b + 1);
         Model.Weight one = new Model.Weight(1, 1);
@@ -32,7 +33,7 @@ public final class Promise05NumberTest {
                 int want = 0;
                 for (Model.Motion w : motions) {
                     Model.Weight moved = w.of(one);
-                    sum += w.sign() * x.number(c - moved.a(), d - moved.b());
+                    sum += w.sign() * numbers[40 + c - moved.a()][40 + d - moved.b()];
                     want += w.of(top).equals(new Model.Weight(c, d)) ? w.sign() : 0;
                 }
                 check.due(Check.name(type, a, b) + "the sum for (" + c + ", " + d + ")", sum, want);

@@ -8,7 +8,7 @@ public final class Promise08OrbitTest {
             RootWeights x = new RootWeights(type);
             Model model = new Model(type);
             String name = "type " + type + ": ";
-            check.everyWeight(name + "orbit", x::orbit, model::orbit);
+            check.everyWeight(name + "orbit", Check.maker(type, 1, 2), RootWeights::orbit, model::orbit);
             check.due(name + "orbit(0, 0)", x.orbit(0, 0), 1);
             check.due(name + "orbit(0, 7)", x.orbit(0, 7), MOTIONS[type] / 2);
             check.due(name + "orbit(40, 0)", x.orbit(40, 0), MOTIONS[type] / 2);

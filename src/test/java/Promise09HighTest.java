@@ -6,7 +6,7 @@ public final class Promise09HighTest {
             RootWeights x = new RootWeights(type);
             Model model = new Model(type);
             String name = "type " + type + ": ";
-            check.everyWeight(name + "high", x::high, model::high);
+            check.everyWeight(name + "high", Check.maker(type, 1, 2), RootWeights::high, model::high);
             check.due(name + "high(0, 0)", x.high(0, 0), 0);
             check.due(name + "high(40, 40)", x.high(40, 40), 40040);
             check.due(name + "high(-40, -40)", x.high(-40, -40), 40040);

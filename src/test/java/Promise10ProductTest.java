@@ -3,21 +3,21 @@ public final class Promise10ProductTest {
     public static void main(String[] args) {
         Check check = new Check("promise 10, product");
         for (int type = 0; type <= 3; type++) {
-            RootWeights x = new RootWeights(type);
-            Model model = new Model(type);
             for (int pair = 0; pair < 256; pair++) {
-                int a = pair / 64;
-                int b = pair / 16 % 4;
-                x.first(a, b);
-                model.first(a, b);
-                x.second(pair / 4 % 4, pair % 4);
-                model.second(pair / 4 % 4, pair % 4);
-                String name = Check.name(type, a, b) + "second of (" + pair / 4 % 4 + ", " + pair % 4 + "): ";
-                check.everyWeight(name + "product", x::product, model::product);
+                products(check, type, new int[] {pair / 64, pair / 16 % 4}, new int[] {pair / 4 % 4, pair % 4});
             }
         }
         known(check);
         check.end();
+    }
+
+    private static void products(Check check, int type, int[] first, int[] second) {
+        Model model = new Model(type);
+        model.first(first[0], first[1]);
+        model.second(second[0], second[1]);
+        String name = Check.name(type, first[0], first[1]) + "second of (" + second[0] + ", " + second[1] + "): ";
+        check.everyWeight(name + "product", () -> Check.made(type, first, second),
+                RootWeights::product, model::product);
     }
 
     private static void known(Check check) {

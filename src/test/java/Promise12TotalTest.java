@@ -3,9 +3,9 @@ public final class Promise12TotalTest {
     public static void main(String[] args) {
         Check check = new Check("promise 12, total");
         for (int type = 0; type <= 3; type++) {
-            RootWeights x = new RootWeights(type);
-            Model model = new Model(type);
             for (int pair = 0; pair < 256; pair++) {
+                RootWeights x = new RootWeights(type);
+                Model model = new Model(type);
                 x.first(pair / 64, pair / 16 % 4);
                 model.first(pair / 64, pair / 16 % 4);
                 x.second(pair / 4 % 4, pair % 4);

@@ -1,3 +1,5 @@
+import java.util.function.Supplier;
+
 /** Promise 13: how often the table of (c, d) is in the even half of the product of first with itself. */
 public final class Promise13EvenTest {
     public static void main(String[] args) {
@@ -9,7 +11,8 @@ public final class Promise13EvenTest {
                     x.second(1, 2);
                     Model model = new Model(type);
                     model.first(a, b);
-                    check.everyWeight(Check.name(type, a, b) + "even", x::even, model::even);
+                    Supplier<RootWeights> fresh = Check.maker(type, a, b);
+                    check.everyWeight(Check.name(type, a, b) + "even", fresh, RootWeights::even, model::even);
                     check.due(Check.name(type, a, b) + "even at the top", x.even(2 * a, 2 * b), 1);
                 }
             }

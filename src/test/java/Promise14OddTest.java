@@ -1,3 +1,5 @@
+import java.util.function.Supplier;
+
 /** Promise 14: how often the table of (c, d) is in the odd half of the product of first with itself. */
 public final class Promise14OddTest {
     public static void main(String[] args) {
@@ -9,7 +11,8 @@ public final class Promise14OddTest {
                     x.second(1, 2);
                     Model model = new Model(type);
                     model.first(a, b);
-                    check.everyWeight(Check.name(type, a, b) + "odd", x::odd, model::odd);
+                    Supplier<RootWeights> fresh = Check.maker(type, a, b);
+                    check.everyWeight(Check.name(type, a, b) + "odd", fresh, RootWeights::odd, model::odd);
                     check.due(Check.name(type, a, b) + "odd at the top", x.odd(2 * a, 2 * b), 0);
                 }
             }
