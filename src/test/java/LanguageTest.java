@@ -5,8 +5,11 @@ import java.lang.reflect.Modifier;
 import java.nio.file.Files;
 import java.nio.file.Path;
 import java.util.Arrays;
+import java.util.Map;
 import java.util.Set;
+import java.util.TreeMap;
 import java.util.TreeSet;
+import java.util.regex.Matcher;
 import java.util.regex.Pattern;
 
 /** The document's face and those rules of LANGUAGE.md that can be seen from the class and its text. */
@@ -22,11 +25,21 @@ public final class LanguageTest {
         "interface", "record", "protected", "var", "getClass", "hashCode", "equals", "toString", "clone",
     };
 
+    private static final Pattern METHOD = Pattern.compile(
+            "(?ms)^    (?:public|private) (?:static )?(?:\\w+ )?(\\w+)\\([^)]*\\) \\{\\n(.*?)^    \\}$");
+    private static final Pattern LOOP = Pattern.compile("\\b(for|while|do)\\b");
+    private static final Pattern COUNTED_LOOP = Pattern.compile(
+            "\\bfor \\(int (\\w+) = [^;]+; \\1 <=? [\\w ]+; \\1\\+\\+\\)");
+    private static final int METHOD_LINES = 60;
+    private static final int CALLS_DEEP = 6;
+
     public static void main(String[] args) throws Exception {
         Check check = new Check("language");
+        String text = withoutComments(Files.readString(SOURCE));
         face(check);
         members(check);
-        text(check, withoutComments(Files.readString(SOURCE)));
+        text(check, text);
+        methods(check, text);
         check.end();
     }
 
@@ -82,6 +95,38 @@ public final class LanguageTest {
         String withoutArrayFields = text.replaceAll("private final int\\[\\] \\w+ = new int\\[[A-Z_]+\\];", "");
         check.holds("arrays are made in fields alone",
                 !Pattern.compile("\\bnew\\b").matcher(withoutArrayFields).find());
+    }
+
+    /** Rules 8 and 10, as far as the class is written in the way that it is: one form of loop, one of method. */
+    private static void methods(Check check, String text) {
+        Map<String, String> bodies = new TreeMap<>();
+        Matcher method = METHOD.matcher(text);
+        while (method.find()) {
+            bodies.put(method.group(1), method.group(2));
+            check.holds(method.group(1) + " is short", method.group(2).lines().count() <= METHOD_LINES);
+        }
+        check.due("methods and constructors found", bodies.size(), RootWeights.class.getDeclaredMethods().length + 1);
+        check.due("loops that count against a bound", found(COUNTED_LOOP, text), found(LOOP, text));
+        String call = "\\b(" + String.join("|", bodies.keySet()) + ")\\(";
+        for (String name : bodies.keySet()) {
+            check.holds(name + " goes at most six calls deep", depth(bodies, call, name, 1) <= CALLS_DEEP);
+            check.holds(name + " has no call inside another's arguments",
+                    !Pattern.compile(call + "[^()]*(\\([^()]*\\)[^()]*)*\\b\\w+\\(").matcher(bodies.get(name)).find());
+        }
+    }
+
+    /** The methods on the longest way down from this one; recursion is told as more than are allowed. */
+    private static int depth(Map<String, String> bodies, String call, String name, int above) {
+        int deepest = above;
+        Matcher called = Pattern.compile(call).matcher(bodies.get(name));
+        while (above <= CALLS_DEEP && called.find()) {
+            deepest = Math.max(deepest, depth(bodies, call, called.group(1), above + 1));
+        }
+        return deepest;
+    }
+
+    private static long found(Pattern pattern, String text) {
+        return pattern.matcher(text).results().count();
     }
 
     private static String withoutComments(String text) {

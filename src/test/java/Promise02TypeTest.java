@@ -17,7 +17,7 @@ public final class Promise02TypeTest {
             }
             int type = from;
             check.refused("type", () -> Check.made(type, new int[] {2, 1}, new int[] {1, 1}),
-                    (x, wrong, unused) -> x.type(wrong), NO_TYPE);
+                    (x, wrong, unused) -> x.type(wrong), NO_TYPE, -1);
         }
         sizes(check);
         check.end();

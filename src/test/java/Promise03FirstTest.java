@@ -21,7 +21,7 @@ public final class Promise03FirstTest {
             check.due("nothing is left of an earlier table", x.size(), 1);
             int made = type;
             check.refused("first", () -> Check.made(made, new int[] {2, 1}, new int[] {1, 2}),
-                    RootWeights::first, Check.NO_TABLE);
+                    RootWeights::first, Check.NO_TABLE, -1);
         }
         known(check);
         check.end();

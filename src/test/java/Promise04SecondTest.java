@@ -19,7 +19,7 @@ public final class Promise04SecondTest {
             }
             int made = type;
             check.refused("second", () -> Check.made(made, new int[] {2, 1}, new int[] {1, 2}),
-                    RootWeights::second, Check.NO_TABLE);
+                    RootWeights::second, Check.NO_TABLE, -1);
         }
         known(check);
         check.end();
