@@ -6,50 +6,26 @@ public final class BoundaryNothingChangesTest {
         {Integer.MIN_VALUE, Integer.MAX_VALUE}, {Integer.MAX_VALUE, Integer.MIN_VALUE},
     };
 
-    private record Named(String name, Check.Call call) { }
-
-    private static final Named[] CHANGES = {
-        new Named("type", (x, c, d) -> x.type(c)),
-        new Named("first", RootWeights::first),
-        new Named("second", RootWeights::second),
-    };
-    private static final Named[] CALLS_BELOW = {
-        new Named("number", RootWeights::number),
-        new Named("size", (x, c, d) -> x.size()),
-        new Named("most", (x, c, d) -> x.most()),
-        new Named("orbit", RootWeights::orbit),
-        new Named("high", RootWeights::high),
-        new Named("product", RootWeights::product),
-        new Named("kinds", (x, c, d) -> x.kinds()),
-        new Named("total", (x, c, d) -> x.total()),
-        new Named("even", RootWeights::even),
-        new Named("odd", RootWeights::odd),
-        new Named("along", RootWeights::along),
-    };
-
     public static void main(String[] args) {
         Sentences terms = new Sentences("terms");
-        for (Named each : CALLS_BELOW) {
-            terms.test("The calls below change nothing (" + each.name + ")", check -> changesNothing(check, each));
+        for (FaceCall each : FaceCall.BELOW) {
+            terms.test("The calls below change nothing (" + each.name() + ")", check -> changesNothing(check, each));
         }
         terms.test("A refused call changes nothing (any between all others)", BoundaryNothingChangesTest::between);
-        for (Named each : CHANGES) {
-            terms.test("An object is used for at most 512 calls (" + each.name + ")", check -> last(check, each));
-        }
-        for (Named each : CALLS_BELOW) {
-            terms.test("An object is used for at most 512 calls (" + each.name + ")", check -> last(check, each));
+        for (FaceCall each : FaceCall.ALL) {
+            terms.test("An object is used for at most 512 calls (" + each.name() + ")", check -> last(check, each));
         }
         terms.end();
     }
 
-    private static void changesNothing(Check check, Named each) {
+    private static void changesNothing(Check check, FaceCall each) {
         Check.everyState(fresh -> {
             String without = Check.later(fresh.get());
             for (int[] row : ARGUMENTS) {
                 RootWeights x = fresh.get();
-                int answer = each.call.of(x, row[0], row[1]);
-                String name = each.name + "(" + row[0] + ", " + row[1] + ")";
-                check.due(name + " once more", each.call.of(x, row[0], row[1]), answer);
+                int answer = each.of(x, row[0], row[1]);
+                String name = each.name() + "(" + row[0] + ", " + row[1] + ")";
+                check.due(name + " once more", each.of(x, row[0], row[1]), answer);
                 check.same("calls after " + name, Check.later(x), without);
             }
         });
@@ -62,10 +38,10 @@ public final class BoundaryNothingChangesTest {
             RootWeights disturbed = new RootWeights(type);
             for (int i = 0; i < 36; i++) {
                 refusedOnes(check, disturbed, i);
-                Named each = CHANGES[i % 3];
+                FaceCall each = FaceCall.CHANGES[i % 3];
                 int a = i / 3 % 4;
                 int b = (i / 2 + 1) % 4;
-                check.due(each.name, each.call.of(disturbed, a, b), each.call.of(plain, a, b));
+                check.due(each.name(), each.of(disturbed, a, b), each.of(plain, a, b));
                 check.due("size()", disturbed.size(), plain.size());
                 check.due("total()", disturbed.total(), plain.total());
             }
@@ -90,33 +66,33 @@ public final class BoundaryNothingChangesTest {
     }
 
     /** The object's 512th call answers as it does on one that has just been made. */
-    private static void last(Check check, Named each) {
+    private static void last(Check check, FaceCall each) {
         Check.everyState(fresh -> {
             RootWeights x = fresh.get();
             int type = x.type(0);
             x.type(type);
             int made = 4;
             for (; made < USED_FOR - 1; made++) {
-                Named call = CALLS_BELOW[made % CALLS_BELOW.length];
+                FaceCall call = FaceCall.BELOW[made % FaceCall.BELOW.length];
                 int[] row = ARGUMENTS[made / 3 % ARGUMENTS.length];
-                call.call.of(x, row[0], row[1]);
+                call.of(x, row[0], row[1]);
             }
             check.due("calls made", made, USED_FOR - 1);
-            check.due(each.name + " as the 512th call", each.call.of(x, 1, 2), each.call.of(fresh.get(), 1, 2));
+            check.due(each.name() + " as the 512th call", each.of(x, 1, 2), each.of(fresh.get(), 1, 2));
         });
         afterChanges(check, each);
     }
 
     /** The same after 511 calls that changed type, first and second, and ended with a state that is told. */
-    private static void afterChanges(Check check, Named each) {
+    private static void afterChanges(Check check, FaceCall each) {
         RootWeights x = new RootWeights(1);
         for (int made = 0; made < USED_FOR - 4; made++) {
-            CHANGES[made % 3].call.of(x, made / 3 % 5, made / 7 % 5);
+            FaceCall.CHANGES[made % 3].of(x, made / 3 % 5, made / 7 % 5);
         }
         x.type(2);
         x.first(1, 3);
         x.second(2, 2);
         RootWeights told = Check.made(2, new int[] {1, 3}, new int[] {2, 2});
-        check.due(each.name + " as the 512th call", each.call.of(x, 1, 2), each.call.of(told, 1, 2));
+        check.due(each.name() + " as the 512th call", each.of(x, 1, 2), each.of(told, 1, 2));
     }
 }

@@ -30,6 +30,9 @@ public final class LanguageTest {
     private static final Pattern LOOP = Pattern.compile("\\b(for|while|do)\\b");
     private static final Pattern COUNTED_LOOP = Pattern.compile(
             "\\bfor \\(int (\\w+) = [^;]+; \\1 <=? [\\w ]+; \\1\\+\\+\\)");
+    private static final Pattern CLASS_NAME = Pattern.compile("\\b(?!RootWeights\\b)[A-Z]\\w*[a-z]\\w*");
+    private static final Set<Class<?>> TYPES = Set.of(
+            int.class, long.class, short.class, byte.class, char.class, boolean.class);
     private static final int METHOD_LINES = 60;
     private static final int CALLS_DEEP = 6;
 
@@ -68,6 +71,9 @@ public final class LanguageTest {
             boolean isStatic = Modifier.isStatic(field.getModifiers());
             fields += isStatic ? 0 : 1;
             check.holds(field + " is private", Modifier.isPrivate(field.getModifiers()));
+            check.holds(field + " is a number, a truth or an array of these", isAllowed(field.getType()));
+            check.holds(field + ", if an array, is not assigned to by a method", !field.getType().isArray()
+                    || Modifier.isFinal(field.getModifiers()));
             check.holds(field + ", if static, is a constant of int or long", !isStatic
                     || Modifier.isFinal(field.getModifiers())
                     && (field.getType() == int.class || field.getType() == long.class));
@@ -83,13 +89,21 @@ public final class LanguageTest {
             check.holds(method + " has a name of its own", isPublic || !publicNames.contains(method.getName()));
             check.holds(method + " takes at most seven parameters", method.getParameterCount() <= 7);
             check.holds(method + " answers no array", !method.getReturnType().isArray());
+            for (Class<?> type : method.getParameterTypes()) {
+                check.holds(method + " takes numbers, truths and arrays of these", isAllowed(type));
+            }
         }
+    }
+
+    private static boolean isAllowed(Class<?> type) {
+        return TYPES.contains(type.isArray() ? type.getComponentType() : type);
     }
 
     private static void text(Check check, String text) {
         for (String word : FORBIDDEN_WORDS) {
             check.holds("no word " + word, !Pattern.compile("\\b" + word + "\\b").matcher(text).find());
         }
+        check.due("names of other classes", found(CLASS_NAME, text), 0);
         check.holds("no lambda, method reference or string", !Pattern.compile("->|::|\"").matcher(text).find());
         check.holds("no array of arrays", !Pattern.compile("\\]\\s*\\[").matcher(text).find());
         String withoutArrayFields = text.replaceAll("private final int\\[\\] \\w+ = new int\\[[A-Z_]+\\];", "");
